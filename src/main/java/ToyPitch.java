@@ -338,9 +338,11 @@ public final class ToyPitch {
         return Math.max(Math.abs(x - otherX), Math.abs(y - otherY));
     }
 
-    /** The kinds of words; those of KNOWN are numbered as they stand there, so that kinds of one use make a range. */
+    /** The kinds of words, numbered as they stand in these texts, so that kinds of one use make a range. */
     private static final class Word {
-        static final String KNOWN = "state when and go set move to kick stay matex matey foex foey a b c d ballx bally myx myy held tick lead near ";
+        static final String KEYWORDS = "state when and go set move to kick stay matex matey foex foey ";
+        static final String SOURCES = "a b c d ballx bally myx myy held tick lead near ";
+        static final String SIGNS = "{}<=>+-*;";
         static final int OF_STATE = 0;
         static final int WHEN = 1;
         static final int AND = 2;
@@ -356,7 +358,6 @@ public final class ToyPitch {
         static final int BALLX = 17;
         static final int NUMBER = 25;
         static final int NAME = 26;
-        static final String SIGNS = "{}<=>+-*;";
         static final int OPEN = 27;
         static final int CLOSE = 28;
         static final int LESS = 29;
@@ -391,10 +392,15 @@ public final class ToyPitch {
         private int refused = -1;
 
         Reader() {
-            int word = 0;
+            learn(Word.KEYWORDS, 0);
+            learn(Word.SOURCES, Word.OWN_A);
+        }
+
+        private void learn(String texts, int first) {
+            int word = first;
             long packed = 0;
-            for (int i = 0; i < Word.KNOWN.length(); i++) {
-                char letter = Word.KNOWN.charAt(i);
+            for (int i = 0; i < texts.length(); i++) {
+                char letter = texts.charAt(i);
                 if (letter != ' ') {
                     packed = pack(packed, letter);
                 } else if (word < known.length) {
@@ -544,7 +550,7 @@ public final class ToyPitch {
             }
         }
 
-        /** Goes past a word of one of these kinds, and answers which; any other is the FAULT, and nothing is taken behind it. */
+        /** Goes past a word of one of these kinds, and answers which; any other is the FAULT, and none goes past that. */
         private int take(int least, int most) {
             int kind = kind();
             if (refused < 0 && kind >= least && kind <= most && next < values.length) {

@@ -94,12 +94,29 @@ public final class OracleTest {
         if (oracle.programs.isEmpty()) {
             text("state s{when held=2{kick 1 0 9;}when 1=1{to ballx bally;}}");
         }
-        for (int i = 0; i < 4 + upTo(20); i++) {
+        int changes = 4 + upTo(20);
+        for (int i = 0; i < changes; i++) {
             team();
         }
-        while (calls < CALLS && isAlike) {
+        if (upTo(3) == 0) {
+            openGame();
+        }
+        for (int i = 0; i < 4 * CALLS && calls < CALLS && isAlike; i++) {
             any();
         }
+    }
+
+    /** One that shoots well against a team without programs, so that goals, and lists of them, come about. */
+    private void openGame() {
+        int shooting = upTo(4);
+        int other = (shooting + 1 + upTo(3)) % 4;
+        for (int k = 0; k < 5; k++) {
+            ask("program", other, k, -1);
+            ask("start", other, k, 2 + k, upTo(2) * 8);
+            ask("start", shooting, k, 2 + k, 1 + upTo(8));
+        }
+        boolean isHome = upTo(2) == 0;
+        ask("begin", isHome ? shooting : other, isHome ? other : shooting);
     }
 
     private void team() {
@@ -118,7 +135,9 @@ public final class OracleTest {
     private void any() {
         switch (upTo(24)) {
             case 0:
-                ask("begin", near(4), near(4));
+                if (oracle.game == null || upTo(6) == 0) {
+                    ask("begin", near(4), near(4));
+                }
                 break;
             case 1:
                 team();
@@ -134,7 +153,9 @@ public final class OracleTest {
                 ask("keep", near(2));
                 break;
             case 4:
-                ask("back", near(2));
+                if (upTo(3) == 0) {
+                    ask("back", near(2));
+                }
                 break;
             case 5:
                 ask("differ", near(2));
