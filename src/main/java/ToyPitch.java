@@ -550,7 +550,7 @@ public final class ToyPitch {
             }
         }
 
-        /** Goes past a word of one of these kinds, and answers which; any other is the FAULT, and none goes past that. */
+        /** Goes past a word of one of these kinds, and answers which; any other is the FAULT, and ends the reading. */
         private int take(int least, int most) {
             int kind = kind();
             if (refused < 0 && kind >= least && kind <= most && next < values.length) {

@@ -6,6 +6,7 @@ public final class KeepTest {
         findings();
         goesOnAlike();
         ownTeams();
+        ownStarts();
         differences();
         alikeAgain();
         Due.end();
@@ -105,6 +106,23 @@ public final class KeepTest {
         Due.due("it shoots again", x.tick(4), 0);
     }
 
+    /** CROWD puts robot 3 at the START that the kept match has, not at the one of the match that was between. */
+    private static void ownStarts() {
+        ToyPitch x = new ToyPitch();
+        Due.give(x, 0, 3, "state s{when 1=1{move 0-1 0;}}");
+        x.start(0, 1, 2, 2);
+        x.start(0, 2, 2, 6);
+        x.begin(0, 1);
+        x.tick(2);
+        x.keep(0);
+        x.start(0, 3, 6, 8);
+        x.begin(0, 1);
+        x.back(0);
+        Due.due("CROWD", x.tick(1), 3);
+        Due.due("column", x.robot(3, 0), 5);
+        Due.due("row", x.robot(3, 1), 3);
+    }
+
     private static void differences() {
         ToyPitch x = new ToyPitch();
         Due.give(x, 0, 2, "state s{when tick=0{move 1 0;}}");
@@ -143,6 +161,21 @@ public final class KeepTest {
         Due.due("differ by " + text, x.differ(0), due);
     }
 
+    /** The ball lies at (8, 4), then law SLEEP puts it at (7, 4): nothing but its column is another. */
+    private static void sleepingBall() {
+        ToyPitch x = new ToyPitch();
+        Due.give(x, 0, 0, "state s{when tick=0{move 1 0;}when tick=1{kick 1 0 1;}when tick=2{move 0-1 0;}}");
+        x.start(0, 0, 6, 4);
+        x.begin(0, 1);
+        x.tick(3);
+        x.keep(0);
+        Due.due("ticks 3 .. 9", x.tick(7), -1);
+        Due.due("alike", x.differ(0), 2000);
+        Due.due("SLEEP", x.tick(1), 1);
+        Due.due("the ball's column", x.ball(0), 7);
+        Due.due("not alike", x.differ(0), 1000);
+    }
+
     private static void alikeAgain() {
         unlike("state s{}", 8, 2000);
         unlike("state s{when tick=1{go t;}}state t{}", 1, 1000);
@@ -152,6 +185,7 @@ public final class KeepTest {
         unlike("state s{when tick=1{" + many.repeat(7) + "}}", 1, 1000);
         unlike("state s{when tick=0{move 1 0;}when tick=1{kick 0 1 1;}}", 1, 1000);
         unlike("state s{when tick=0{move 1 0;}when tick=1{stay;}}", 1, 2000);
+        sleepingBall();
         unlike("state s{when tick=0{move 1 0;}when held=2{kick 0 1 9;}}", 2, 1000);
         unlike("state s{when tick=0{move 1 0;}when held=2{kick 0 1 9;}}", 3, 2000);
     }

@@ -8,6 +8,9 @@ public final class RunTest {
         rulesInOrder();
         states();
         steps();
+        justEighty();
+        greatText();
+        lastOfEightStates();
         overrunInAct();
         stoppedUntilKickOff();
         robotFindings();
@@ -138,6 +141,56 @@ public final class RunTest {
         Due.due("the 81st is the act", x.robot(0, 3), 1);
         Due.due("it stays", x.robot(0, 0), 1);
         Due.due("command", x.robot(0, 10), 0);
+    }
+
+    /** The 80th step is the last term of a set, or of a test. */
+    private static void justEighty() {
+        String five = "when 1=1{set a a+1+1+1+1+1+1;set b 7;}".repeat(5);
+        ToyPitch x = with(0, "state s{" + five + "when 1=1 and 1=1{set d 1+1+1+1+1+1+1+1;}}");
+        x.tick(1);
+        Due.due("65 + 6 + 9 steps are 80", x.robot(0, 3), 0);
+        own(x, 0, 30, 7, 0, 8);
+        String test = "when 1=1 and 1=1 and 1=1 and 1=1 and 1=1{";
+        x = with(0, "state s{" + five + test + "}}");
+        x.tick(1);
+        Due.due("65 + 15 steps are 80", x.robot(0, 3), 0);
+        x = with(0, "state s{" + five + test + "stay;}}");
+        x.tick(1);
+        Due.due("the act is the 81st", x.robot(0, 3), 1);
+        x = with(0, "state s{" + five + test + "}when 1=2{}}");
+        x.tick(1);
+        Due.due("the next test is the 81st", x.robot(0, 3), 1);
+    }
+
+    /** 800 bytes with more than 350 terms; the last of them are still worked out as they stand. */
+    private static void greatText() {
+        String twelve = "1*1*1*1*1*1*1*1*1*1*1*1";
+        String head = "state s{when 1=2and " + (twelve + "=" + twelve + "and ").repeat(14) + "1=1{}";
+        String tail = "when 1=1{set a 7-matex 1;set b a*999-bally;move 1 0;}}";
+        String text = head + " ".repeat(800 - head.length() - tail.length()) + tail;
+        Due.due("bytes", text.length(), 800);
+        ToyPitch x = with(0, text);
+        x.tick(1);
+        own(x, 0, 4, 3992, 0, 0);
+        Due.due("it moved", x.robot(0, 0), 2);
+        String acts = "when 1=1{" + "stay;".repeat(8) + "}";
+        x = with(0, "state s{" + acts.repeat(12) + "}state t{" + acts.repeat(3) + "}");
+        x.tick(1);
+        Due.due("the first of 120 acts", x.robot(0, 10), 0);
+    }
+
+    private static void lastOfEightStates() {
+        StringBuilder b = new StringBuilder();
+        for (int i = 0; i < 8; i++) {
+            b.append("state x").append((char) ('a' + i)).append("{when 1=1{set a a*10+").append(i).append(";go x");
+            b.append((char) ('a' + Math.min(7, i + 1))).append(";}}");
+        }
+        ToyPitch x = with(0, b.toString());
+        x.tick(8);
+        own(x, 0, 1234567, 0, 0, 0);
+        Due.due("its state", x.robot(0, 2), 7);
+        x.tick(1);
+        own(x, 0, 12345677, 0, 0, 0);
     }
 
     private static void overrunInAct() {
