@@ -1,0 +1,37 @@
+/** A fresh object reads one text; what read(), fault() and count() then tell is due. */
+final class Reads {
+    static final int GOOD = -1;
+
+    private Reads() { }
+
+    /** A text with a FAULT at that place, or, for GOOD, without one. */
+    static void fault(String text, int place) {
+        ToyPitch x = new ToyPitch();
+        String told = text.length() > 60 ? text.substring(0, 60) + " .. (" + text.length() + ")" : text;
+        Due.feedText(x, text);
+        Due.due("bytes of " + told, x.count(1), text.length());
+        Due.due("read of " + told, x.read(), place == GOOD ? 0 : Due.TEXT);
+        Due.due("fault of " + told, x.fault(), place);
+        Due.due("tape behind " + told, x.count(1), 0);
+        Due.due("programs behind " + told, x.count(0), place == GOOD ? 1 : 0);
+        Due.due("found TEXT behind " + told, x.found(Due.TEXT), place == GOOD ? 0 : 1);
+    }
+
+    static void good(String text) {
+        fault(text, GOOD);
+    }
+
+    /** Where the FAULT is told by what stands ahead of it. */
+    static void faultBehind(String ahead, String rest) {
+        fault(ahead + rest, ahead.length());
+    }
+
+    /** What HOME's robot 0 has for a behind one tick of a program with this SUM. */
+    static void sum(String sum, int due) {
+        ToyPitch x = new ToyPitch();
+        Due.give(x, 0, 0, "state s{when 1=1{set a " + sum + ";}}");
+        x.begin(0, 1);
+        x.tick(1);
+        Due.due("set a " + sum, x.robot(0, 4), due);
+    }
+}
