@@ -182,6 +182,29 @@ public final class FieldEdgeTest {
             p.score(what, 0);
         }
         p.tick(8, 0).goal(0, 3).goal(1, 7).goal(2, Due.NONE);
+        scoresBeginAtNought();
+    }
+
+    /** A match in which all nine scores come to be above 0, and the next one, in which they are 0 again. */
+    private static void scoresBeginAtNought() {
+        Play p = new Play("scores");
+        p.aside(0, 0).start(1, 0, 6, 4).start(0, 1, 0, 0).start(0, 2, 1, 0).start(0, 3, 2, 0).start(0, 4, 3, 8);
+        p.give(0, 0, "state s{when lead=1 and held=2{kick 0-1 0 9;}when tick=0{move 1 0;}when tick=2{stay;}when tick=5{move 1 0;}"
+            + "when tick=6{move 0 1;}when tick=7{move 1 0;}when tick=8{move 1 0;}when tick=9{kick 1 0 9;}when lead=1{to 7 4;}"
+            + "when tick=25{move 1 0;}}");
+        p.give(1, 0, "state s{when tick=2{move 1 0;}}");
+        p.give(0, 4, "state s{when tick=1{move 0-1 0;}}");
+        p.give(1, 1, "state s{when 1=1" + " and 1=1".repeat(27) + "{}}");
+        p.begin(0, 1).tick(1, -1).score(8, 1).tick(1, 3).score(6, 1).tick(1, -1).score(7, 1).tick(2, -1).tick(1, -1).score(7, 2);
+        p.tick(4, -1).tick(1, 0).score(1, 1).tick(4, 0).score(2, 1).tick(10, 1).score(4, 1).tick(12, -1).tick(1, 2);
+        int[] scores = {38, 1, 1, 2, 1, 1, 1, 2, 3};
+        for (int what = 0; what < 9; what++) {
+            p.score(what, scores[what]);
+        }
+        p.begin(0, 1);
+        for (int what = 0; what < 9; what++) {
+            p.score(what, 0);
+        }
     }
 
     private static int[] nearestFree(boolean[] taken, int column, int row) {

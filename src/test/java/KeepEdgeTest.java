@@ -11,6 +11,8 @@ public final class KeepEdgeTest {
         keptTeams();
         keptGoals();
         leagueLeavesPlaces();
+        asIfNothingHadBeen();
+        keptOneByOne();
         cells();
         leastColumnThenRow();
         otherRobots();
@@ -165,6 +167,99 @@ public final class KeepEdgeTest {
         p.score(0, 8).tick(1, -1).tick(1, 1);
         due(p, "back", p.x.back(0), 7);
         p.tick(2, -1).tick(1, 1);
+    }
+
+    private static final String[] LIVELY = {
+        "state s{when held=2 and myx>9{kick 1 4-myy 6;}when held=2{set a a+tick;go z;to 12 7;}when 1=1{set b near;to ballx bally;}}"
+            + "state z{when held=2 and myx>9{kick 0-1 3-myy 7;}when held=2{set c c+1;move 1 1;}when 1=1{go s;to ballx bally;}}",
+        "state s{when tick>6" + " and 1=1".repeat(27) + "{}when 1=1{set d tick;to 3 tick;}}",
+        "state s{when held=2{kick 1 0 9;}when 1=1{to 7 4;}}",
+        "state s{when held=2{kick 0-1 0 9;}when 1=1{to ballx bally;}}",
+    };
+
+    private static ToyPitch lively(int home) {
+        ToyPitch x = new ToyPitch();
+        for (String text : LIVELY) {
+            Due.readText(x, text);
+        }
+        for (int team = 0; team < 4; team++) {
+            for (int k = 0; k < 5; k++) {
+                x.program(team, k, (team + k) % 4);
+                x.start(team, k, 2 + (k + team) % 5, (2 * k + team) % 9);
+            }
+            x.views(team, 3 - team, team == 0 ? 0 : team + 1);
+        }
+        x.begin(home, (home + 1) % 4);
+        return x;
+    }
+
+    private static String all(ToyPitch x) {
+        StringBuilder b = new StringBuilder();
+        for (int what = 0; what < 9; what++) {
+            b.append(what < 6 ? x.ball(what) : 0).append(' ').append(x.score(what)).append(' ').append(x.goal(what)).append(' ');
+        }
+        for (int r = 0; r < 10; r++) {
+            for (int what = 0; what < 11; what++) {
+                b.append(x.robot(r, what)).append(' ');
+            }
+        }
+        return b.toString();
+    }
+
+    /** One plays a match through; another keeps it, plays another one, and is back: from then on all shows alike. */
+    private static void asIfNothingHadBeen() {
+        for (int home = 0; home < 4; home++) {
+            for (int ticks = 1; ticks < 34; ticks += 2) {
+                for (int late = 1; late < 30; late += 7) {
+                    ToyPitch plain = lively(home);
+                    ToyPitch asked = lively(home);
+                    plain.tick(ticks);
+                    asked.tick(ticks);
+                    asked.keep(1);
+                    asked.begin((home + 2) % 4, (home + 1) % 4);
+                    asked.tick(late);
+                    Due.due("back", asked.back(1), ticks);
+                    same("behind " + ticks, all(asked), all(plain));
+                    plain.tick(1 + late % 3);
+                    asked.tick(1 + late % 3);
+                    same("going on from " + ticks, all(asked), all(plain));
+                }
+            }
+        }
+    }
+
+    private static void same(String what, String got, String want) {
+        Due.due(what + (got.equals(want) ? "" : "\n " + got + "\n " + want), got.equals(want) ? 1 : 0, 1);
+    }
+
+    /** A STOPPED robot, its OVERRUN, the count of SLEEP at another cell, and rows of the views are kept, too. */
+    private static void keptOneByOne() {
+        Play p = new Play("STOPPED");
+        p.give(0, 0, "state s{when 1=1" + " and 1=1".repeat(27) + "{}}").begin(0, 1).tick(1, -1).robot(0, 3, 1).score(8, 1);
+        due(p, "keep", p.x.keep(0), 1);
+        p.begin(1, 0).robot(0, 3, 0).score(8, 0);
+        due(p, "back", p.x.back(0), 1);
+        p.robot(0, 3, 1).score(8, 1).tick(1, -1).score(8, 1);
+        for (String kick : new String[] {"0 1 1", "1 0 1", "1 1 1"}) {
+            p = Play.carrier("SLEEP at another cell", 0, 7, 4, kick).tick(5, -1);
+            due(p, "keep", p.x.keep(0), 1);
+            p.begin(1, 2).tick(7, -1);
+            due(p, "back", p.x.back(0), 6);
+            p.tick(4, -1).tick(1, 1);
+        }
+        p = new Play("rows of views").aside(0, 0).views(1, 3, 0);
+        p.give(0, 0, "state s{when tick=0{move 1 0;}when 1=1{move 0 1;}}").begin(0, 1).tick(4, -1).ball(7, 7, 0).robot(8, 9, 4);
+        due(p, "keep", p.x.keep(0), 1);
+        p.begin(1, 2).tick(3, -1);
+        due(p, "back", p.x.back(0), 4);
+        p.robot(8, 9, 4).robot(0, 10, 1).tick(1, -1).robot(8, 9, 4).tick(1, -1).robot(8, 9, 5).tick(1, -1).robot(8, 9, 6);
+        p = new Play("AWAY's goals").aside(0, 0).give(0, 0, "state s{when held=2{kick 0-1 0 9;}when 1=1{to 7 4;}}");
+        p.begin(0, 1).tick(4, 0).goal(0, 1003);
+        due(p, "keep", p.x.keep(0), 1);
+        p.due("none", p.x.program(0, 0, -1), 1).give(1, 0, "state s{when tick>0 and held=2{kick 0-1 0 9;}when tick>0{to 7 4;}}");
+        p.start(1, 0, 6, 3).begin(0, 1).tick(5, 0).goal(0, 4).score(2, 0);
+        due(p, "back", p.x.back(0), 4);
+        p.goal(0, 1003).score(1, 0).score(2, 1).goal(1, Due.NONE);
     }
 
     /** Kept with HOME's and AWAY's 0 far away; then they start at a cell, and its mirror. */

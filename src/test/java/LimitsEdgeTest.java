@@ -20,6 +20,7 @@ public final class LimitsEdgeTest {
         namesComeLast();
         programNumbers();
         readKeepsNothingOfABadText();
+        bytesOfAnEarlierText();
         faultOfTheLatestRead();
         Due.end();
     }
@@ -315,18 +316,37 @@ public final class LimitsEdgeTest {
     /** A text with a FAULT leaves nothing that the next program could show. */
     private static void readKeepsNothingOfABadText() {
         ToyPitch x = new ToyPitch();
-        Due.due("bad read", Due.readText(x, "state y{when 1=1{set a 9;}}state z{when 1=1{set b 9;}}state y{}"), Due.TEXT);
+        String bad = "state y{when 1+1+1+1=4 and 1=1{set a 9;set a 8;}when 1=1{set b 7+7;}}state z{when 1=1{set b 9;}}state y{}";
+        Due.due("bad read", Due.readText(x, bad), Due.TEXT);
         Due.due("no program 0", x.count(2), 0);
-        Due.due("read", Due.readText(x, "state s{when 1=1{go z;}}state z{when 1=1{set c 7;}}"), 0);
+        Due.due("read", Due.readText(x, "state s{when 1=1{go z;}}state z{when 2-1=1*1{set c c+7;}when 1=1{set d 5;}}"), 0);
         Due.due("states", x.count(2), 2);
         Due.due("bad read", Due.readText(x, states(8) + "state"), Due.TEXT);
         Due.due("states", x.count(2), 2);
         x.program(0, 0, 0);
         x.begin(0, 1);
-        x.tick(2);
-        int[] due = {0, 0, 7, 0};
-        for (int i = 0; i < 4; i++) {
-            Due.due("own number " + i, x.robot(0, 4 + i), due[i]);
+        int[][] due = {{0, 0, 0, 0}, {0, 0, 7, 5}, {0, 0, 14, 5}};
+        for (int tick = 0; tick < 3; tick++) {
+            x.tick(1);
+            for (int i = 0; i < 4; i++) {
+                Due.due("own number " + i + " behind tick " + tick, x.robot(0, 4 + i), due[tick][i]);
+            }
+        }
+        Due.due("no STEPS of the bad text", x.score(8), 0);
+    }
+
+    /** "The tape (empty then)": what stood behind a text's end in an earlier, longer one is no part of it. */
+    private static void bytesOfAnEarlierText() {
+        String[] texts = {"", "state", "state s", "state zzzzzzzzzzzz", "state s{when", "state s{when 99", "state s{when 999",
+            "state s{when a", "state s{when matex 4", "state s{when 1=1{stay", "state s{}", "state s{} "};
+        for (String earlier : new String[] {"z", "9", "a", "0", "}", "{", "-", ";", " ", "?"}) {
+            for (String text : texts) {
+                ToyPitch x = new ToyPitch();
+                Due.due("read", Due.readText(x, earlier.repeat(40)), Due.TEXT);
+                boolean isWhole = text.contains("}");
+                Due.due(text + " behind " + earlier, Due.readText(x, text), isWhole ? 0 : Due.TEXT);
+                Due.due("its fault", x.fault(), isWhole ? -1 : text.length());
+            }
         }
     }
 

@@ -1,6 +1,11 @@
 /** A fresh object reads one text; what read(), fault() and count() then tell is due. */
 final class Reads {
     static final int GOOD = -1;
+    private static final String[] EARLIER = {"z", "9", "-", "{", "state s{}", "1=1 and ", " "};
+
+    private static ToyPitch used = null;
+    private static int renewals = 0;
+    private static int callsLeft = 0;
 
     private Reads() { }
 
@@ -15,6 +20,23 @@ final class Reads {
         Due.due("tape behind " + told, x.count(1), 0);
         Due.due("programs behind " + told, x.count(0), place == GOOD ? 1 : 0);
         Due.due("found TEXT behind " + told, x.found(Due.TEXT), place == GOOD ? 0 : 1);
+        faultInUse(text, told, place);
+    }
+
+    /** The same of an object that has read other texts before, of which nothing may show. */
+    private static void faultInUse(String text, String told, int place) {
+        int calls = (text.length() + 7) / 8 + 3;
+        if (used == null || callsLeft < calls || used.count(0) == 6) {
+            used = new ToyPitch();
+            callsLeft = 512 - 101 - calls;
+            String earlier = EARLIER[renewals % EARLIER.length].repeat(800);
+            renewals++;
+            Due.readText(used, earlier.substring(0, 800));
+        }
+        callsLeft -= calls;
+        int programs = used.count(0);
+        Due.due("read in use of " + told, Due.readText(used, text), place == GOOD ? programs : Due.TEXT);
+        Due.due("fault in use of " + told, used.fault(), place);
     }
 
     static void good(String text) {

@@ -3,13 +3,19 @@ public final class ViewEdgeTest {
     /** A goal in each fourth tick, whatever its team sees. */
     private static final String SHOOT = "state s{when held=2{kick 1 0 9;}when 1=1{to 7 4;}}";
     private static final String CARRY = "state s{when tick=0{move 1 0;}when myx<14{move 1 0;}}";
+    private static final String CARRY_ABOUT = "state s{when tick=0{move 1 0;}when tick<4{move 0 1;}when tick<6{move 1 0-1;}"
+        + "when tick<8{move 0-1 1;}when 1=1{move 1 0;}}";
 
     public static void main(String[] args) {
         for (int late = 0; late <= 3; late++) {
             for (int lost = 0; lost <= 9; lost++) {
                 if (lost != 1) {
                     follow(CARRY, late, lost, 0);
-                    follow(SHOOT, late, lost, 3);
+                    follow(CARRY_ABOUT, late, lost, 0);
+                    for (int wait = 0; wait < 4; wait++) {
+                        String text = SHOOT.replace("{when held=2", "{when tick<" + wait + "{stay;}when held=2");
+                        follow(text, late, lost, (13 - wait) / 4);
+                    }
                 }
             }
         }
