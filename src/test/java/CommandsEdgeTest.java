@@ -25,6 +25,7 @@ public final class CommandsEdgeTest {
         keptIsHeldFromThen();
         noTackle();
         tackleAndOrder();
+        tackleFromEachSide();
         ballGoesWithItsHolder();
         Due.end();
     }
@@ -201,6 +202,24 @@ public final class CommandsEdgeTest {
         p.aside(0, 0).start(0, 1, 6, 5).start(1, 0, 6, 4).give(0, 0, "state s{when tick=0{move 1 0;}}");
         p.give(0, 1, "state s{when tick=0{move 1 0;}}");
         p.give(1, 0, "state s{when 1=1{move 1 0-1;}}").begin(0, 1).tick(9, -1).ball(7, 4, 0).at(5, 8, 4).at(1, 7, 5).score(7, 0);
+    }
+
+    /** The ball comes to the mover's cell, from whichever of the eight cells around the holder it moves. */
+    private static void tackleFromEachSide() {
+        for (int x = -1; x <= 1; x++) {
+            for (int y = -1; y <= 1; y++) {
+                if (x != 0 || y != 0) {
+                    Play p = new Play("a tackle from " + x + " " + y);
+                    p.aside(0, 0).start(1, 0, 6, 4).give(0, 0, "state s{when tick=0{to 7 4;}}");
+                    int toX = 7 - x;
+                    int toY = 4 - y;
+                    p.give(1, 0, "state s{when tick<6 and myx=" + toX + " and myy=" + toY + "{stay;}when tick<3{move 0 " + (y > 0 ? "0-1" : "1")
+                        + ";}when tick<6{to " + toX + " " + toY + ";}when tick=6{to 7 4;}}");
+                    p.begin(0, 1).tick(6, -1).ball(7, 4, 0).at(5, 7 + x, 4 + y).tick(1, -1);
+                    p.ball(7 + x, 4 + y, 5, 0, 0, 0).at(5, 7 + x, 4 + y).at(0, 7, 4).score(7, 1);
+                }
+            }
+        }
     }
 
     /** In even ticks the holder of HOME is first, in odd ones the foe. */

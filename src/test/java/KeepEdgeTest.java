@@ -368,6 +368,7 @@ public final class KeepEdgeTest {
         for (int r = 0; r < 10; r++) {
             for (int i = 0; i < acts.length; i++) {
                 Play p = new Play("robot " + r + " by " + acts[i]);
+                p.due("a program that nobody has", Due.readText(p.x, "state s{}"), 0);
                 p.give(r / 5, r % 5, "state s{when tick=1{" + acts[i] + "}}state z{}").begin(0, 1).tick(1, -1);
                 due(p, "keep", p.x.keep(1), 1);
                 due(p, "alike", p.x.differ(1), 2000);

@@ -15,6 +15,7 @@ public final class LawsEdgeTest {
             keepsCarried(team);
             keepsAgainAndAgain(team);
             keepsNearest(team);
+            keepsFarAway(team);
             crowdSize(team);
             crowdColumns(team);
             crowdGreatest(team);
@@ -142,6 +143,21 @@ public final class LawsEdgeTest {
         nearest(team, 0, 3, 4, 3, 3, 3, 5, 3, 2, 3, 6);
     }
 
+    /** The nearest foe may be 14 columns off; all five in one column crowd in each tick, but KEEPS comes first. */
+    private static void keepsFarAway(int team) {
+        for (int column = 0; column <= 6; column++) {
+            Play p = new Play("foes of " + team + " in column " + column);
+            p.aside(team, 0);
+            for (int k = 0; k < 5; k++) {
+                p.start(1 - team, k, column, 8 - k);
+            }
+            p.give(team, 0, FETCH + "when 1=1{to 0 8;}}").begin(0, 1);
+            p.tick(12, column <= 2 ? 3 : -1).seenBall(team, 0, 8, 5 * team, 0, 0, 0).tick(1, 2);
+            int holder = 5 * (1 - team);
+            p.ball(p.x.robot(holder, 0), p.x.robot(holder, 1), holder, 0, 0, 0);
+        }
+    }
+
     /** HOME's 1 catches in tick 1 what 0 kicks. */
     private static void keepsFromACatchOn() {
         Play p = new Play("KEEPS from a catch on");
@@ -247,6 +263,10 @@ public final class LawsEdgeTest {
         p.aside(0, 0).start(0, 0, 0, 7).start(0, 1, 1, 7).start(0, 2, 2, 7).start(0, 3, 6, 8).start(0, 4, 6, 4);
         p.give(0, 4, FETCH + "when 1=1{move 0-1 0;}}").begin(0, 1).tick(5, -1).ball(3, 4, 4).tick(1, 3);
         p.at(4, 6, 4).ball(6, 4, 4, 0, 0, 0).tick(1, -1).ball(5, 4, 4);
+        p = new Play("CROWD with the ball, to another row");
+        p.aside(0, 0).start(0, 0, 0, 7).start(0, 1, 1, 7).start(0, 2, 2, 7).start(0, 3, 6, 8).start(0, 4, 6, 3);
+        p.give(0, 4, FETCH + "when 1=1{to 2 6;}}").begin(0, 1).tick(5, -1).ball(3, 6, 4).tick(1, 3);
+        p.at(4, 6, 3).ball(6, 3, 4, 0, 0, 0).tick(1, -1).ball(5, 4, 4, 0, 0, 0);
         p = new Play("another than the holder is PUT");
         p.aside(0, 0).start(0, 1, 0, 7).start(0, 2, 1, 7).start(0, 3, 2, 7).start(0, 4, 6, 7);
         p.give(0, 0, FETCH + "when myx>2{move 0-1 0;}}").give(0, 3, "state s{when tick=5{move 0 1;}}").begin(0, 1);
