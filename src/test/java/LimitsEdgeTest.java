@@ -49,6 +49,10 @@ public final class LimitsEdgeTest {
         Reads.good(" ".repeat(791) + "state s{}");
         Reads.good("state s{}" + " ".repeat(791));
         Reads.fault("state s{}" + " ".repeat(790) + "}", 799);
+        for (String words : new String[] {"{", "}", "<", "=", ">", "+", "-", "*", ";", "1-", "a+"}) {
+            Reads.fault(words.repeat(800 / words.length()), 0);
+            Reads.fault("state s{" + words.repeat(792 / words.length()), words.equals("}") ? 9 : 8);
+        }
     }
 
     /** "BEYOND: n isn't 1 .. 8." */
