@@ -675,7 +675,7 @@ public final class ToyPitch {
         static final int SENSE = 2;
         private static final int MOST_STATES = 8;
         private static final int MOST_RULES = 96;
-        /** No act, test, sum or term takes less than two bytes of a text. */
+        /** With the words and signs around them, terms take two bytes of a text or more each; all else takes more. */
         private static final int MOST_PARTS = MOST_BYTES / 2;
 
         int states = 0;

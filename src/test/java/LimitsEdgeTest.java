@@ -12,6 +12,7 @@ public final class LimitsEdgeTest {
         tests();
         termsOfATest();
         termsOfActs();
+        densestTexts();
         termWords();
         signs();
         signsOfEachTerm();
@@ -215,6 +216,24 @@ public final class LimitsEdgeTest {
         Reads.sum("1+1+1+1+1+1+1+1+1+1+1+1", 12);
         Reads.sum("2*2*2*2*2*2*2*2*2*2*2*2", 4096);
         Reads.sum("1-1-1-1-1-1-1-1-1-1-1-1", -10);
+    }
+
+    /** "blanks .. between or not": no text of 800 bytes has more TERMS, or more SUMS, and its last ones are worked out. */
+    private static void densestTexts() {
+        String act = "to" + terms(12, "+") + terms(12, "+").replace('1', 'a') + ";";
+        String full = "state s{when1=0{" + act.repeat(8) + "}when1=0{" + act.repeat(6) + "}";
+        densest(full, act, 2, 3);
+        densest("state s{" + ("when1=0{" + "to1a;".repeat(8) + "}").repeat(11), "to9a;", 2, 3);
+        densest("state s{" + ("when1=0{" + "kick1a1;".repeat(8) + "}").repeat(9), "move1a;", 2, 4);
+        densest("state s{when1=0" + "and1=1".repeat(120) + "{}", "to1 8;", 1, 5);
+    }
+
+    /** Behind one tick HOME's robot 0, at first at (1, 4), has done the last of all acts. */
+    private static void densest(String text, String last, int column, int row) {
+        String whole = text + "when1=1{" + last + "}}";
+        whole += " ".repeat(800 - whole.length());
+        Play p = new Play("dense " + last).give(0, 0, whole).begin(0, 1).tick(1, -1);
+        p.at(0, column, row).robot(0, 10, 1).score(8, 0);
     }
 
     /** A TERM counts as one with its FIGURE and its signs. */
